@@ -826,7 +826,8 @@ public final class Rowtricks {
         }
 
         private void putAllBehind(Row added) {
-            for (int place = 0; place < added.count; place++) {
+            int many = added.count;
+            for (int place = 0; place < many; place++) {
                 putBehind(added.cardAt(place));
             }
         }

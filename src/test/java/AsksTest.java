@@ -75,8 +75,11 @@ public final class AsksTest {
         Check.refused(Check.INDEX, x, () -> x.indexOf(4, 100, 0, true));
         Check.refused(Check.ARGUMENT, x, () -> x.indexOf(0, 100, 0, true));
         Check.refused(Check.ARGUMENT, x, () -> x.indexOf(0, 1, 10, false));
+        Check.is(0, () -> x.indexOf(0, 1, 1, false));
+        Check.is(4, () -> x.indexOf(0, 1, 2, true));
         x.remove(0, 4);
         Check.is(-1, () -> x.indexOf(0, 1, 2, false));
+        Check.is(-1, () -> x.indexOf(0, 1, 2, true));
     }
 
     private static void disjoint() {
@@ -89,6 +92,10 @@ public final class AsksTest {
         Check.is(true, () -> x.disjoint(0, 3));
         Check.is(true, () -> x.disjoint(3, 3));
         Check.is(false, () -> x.disjoint(0, 0));
+        Make.row(x, 3, 10, 20);
+        x.remove(3, 1);
+        Check.is(true, () -> x.disjoint(3, 2));
+        Check.is(false, () -> x.disjoint(3, 0));
         Check.refused(Check.INDEX, x, () -> x.disjoint(0, 4));
         Check.refused(Check.INDEX, x, () -> x.disjoint(-1, 0));
     }

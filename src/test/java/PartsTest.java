@@ -204,6 +204,8 @@ public final class PartsTest {
         Check.is(4, () -> x.swapIn(1, 0, 1));
         Check.is("[1.0, 2.0, 4.0, 3.0, 5.0, 6.0]", () -> x.text(0));
         Check.is(3, () -> x.swapIn(1, 1, 1));
+        Check.is(4, () -> x.swapIn(0, 2, 1));
+        Check.is("[1.0, 2.0, 3.0, 4.0, 5.0, 6.0]", () -> x.text(0));
         Check.refused("-9", x, () -> x.swapIn(1, 2, 0));
         Check.refused("-9", x, () -> x.swapIn(1, 0, 2));
         Check.refused("-9", x, () -> x.swapIn(1, -1, 0));

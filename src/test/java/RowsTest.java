@@ -122,6 +122,10 @@ public final class RowsTest {
         Check.refused(Check.STATE, full, () -> full.insert(0, 0, 1, 1));
         Check.refused(Check.INDEX, full, () -> full.insert(0, 32, 1, 1));
         Check.refused(Check.ARGUMENT, full, () -> full.insert(0, 31, -1, 1));
+        full.remove(0, 30);
+        Check.is(31, () -> full.insert(0, 0, 1, 1));
+        Check.is(1, () -> full.at(0, 0, false));
+        Check.is(5, () -> full.at(0, 30, false));
         Rowtricks w = watched(10, 20);
         w.insert(0, 2, 3, 0);
         isReshaped(w);
@@ -290,6 +294,9 @@ public final class RowsTest {
         Check.is(false, () -> x.replace(0, 1, 0, 7, 7));
         Check.is(true, () -> x.replace(0, 2, 0, 2, 0));
         Check.is(false, () -> x.replace(1, 2, 0, 2, 0));
+        x.add(0, 3, 0);
+        x.remove(0, 4);
+        Check.is(false, () -> x.replace(0, 3, 0, 2, 0));
         Check.refused(Check.INDEX, x, () -> x.replace(4, 100, 1, 1, 1));
         Check.refused(Check.ARGUMENT, x, () -> x.replace(0, 100, 1, 1, 1));
         Check.refused(Check.ARGUMENT, x, () -> x.replace(0, 1, 10, 1, 1));

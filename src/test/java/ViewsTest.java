@@ -138,7 +138,7 @@ public final class ViewsTest {
         Rowtricks x = new Rowtricks();
         Check.is(true, x::isSound);
         x.addCopies(0, 31, 5, 5);
-        Make.row(x, 1, 30, 11, 20, 10, 31);
+        Make.row(x, 1, 30, 11, 20, 40, 31);
         x.part(0, 1, 1, 4);
         x.inner(1, 0, 1, 2);
         x.part(2, 2, 0, 0);
